@@ -135,7 +135,7 @@ public final class HornLearner {
   public int learn() {
     deduction.takeFacts(factSets[0], factSets[1]);
     for (int size = 1; size <= LARGEST_LEARNT; size++) {
-      if (learnBody(this, 0, 0, 0, size) || learnTwoClauses(size)) {
+      if (learnBody(this, 0, 0, 0, size) || size > 1 && learnTwoClauses(size)) {
         return size;
       }
     }
@@ -212,7 +212,7 @@ public final class HornLearner {
 
   /** Clause 0 has one literal in every learnt program of two clauses, as the size is at most 3. */
   private boolean learnTwoClauses(int size) {
-    for (int code = 0; code < CODES && size > 1; code++) {
+    for (int code = 0; code < CODES; code++) {
       // Of two clauses of one literal each, the one with the less code comes first.
       int from = size == 2 ? code + 1 : 0;
       if (hasHeadVariables(1 << code) && learnBody(this, 1 << code, 0, from, size - 1)) {

@@ -331,14 +331,12 @@ public final class PromiseTest {
 
     String variables = "XYZ";
     for (int code = 0; code < 27; code++) {
-      String literal = "" + "abt".charAt(code / 9) + "(" + variables.charAt(code / 3 % 3) + ","
+      String literal = "abt".charAt(code / 9) + "(" + variables.charAt(code / 3 % 3) + ","
           + variables.charAt(code % 3) + ")";
-      // A literal that brings in X and Y and differs from the one that is looked at.
-      int other = code == 25 ? 19 : code < 18 ? 19 : 1;
-      HornLearner y = with("t(X,Y):-" + literal + "," + (other == 19 ? "t(X,Y)" : "a(X,Y)"));
-      if (other != code) {
-        Check.due("the code of " + literal, code, y.literal(0, code < other ? 0 : 1));
-      }
+      // The other literal brings in X and Y and differs from the one that is looked at.
+      boolean otherLast = code < 18;
+      HornLearner y = with("t(X,Y):-" + literal + (otherLast ? ",t(X,Y)" : ",a(X,Y)"));
+      Check.due("the code of " + literal, code, y.literal(0, otherLast ? 0 : 1));
     }
   }
 
@@ -505,6 +503,8 @@ public final class PromiseTest {
 
     HornLearner chain = with("a(0,1)", "b(1,2)", "a(3,1)", "+t(0,2)", "-t(0,1)", "-t(1,2)");
     learns(chain, 2, "t(X,Y):-a(X,Z),b(Z,Y)");
+    HornLearner next = with("a(0,0)", "a(0,1)", "a(2,3)", "+t(0,1)", "-t(2,3)");
+    learns(next, 2, "t(X,Y):-a(X,X),a(X,Y)");
     // Every pair is marked, so that nothing shorter tells (3,1) from the others.
     HornLearner three = with("a(2,1)", "a(3,2)", "a(0,0)", "b(1,3)", "b(0,3)");
     for (int pair = 0; pair < 16; pair++) {
