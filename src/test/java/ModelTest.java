@@ -3,14 +3,14 @@ import java.util.Random;
 
 /** Runs of calls that come from a fixed seed, each answer compared with the one of the model. */
 public final class ModelTest {
-  private static final int CALLS = 512;
+  // The dearest step is to learn and then to read the longest text.
+  private static final int CALLS_OF_A_STEP = 60;
   private static final String SIGNS = "abt~+-(),:;XYZ0123 4x.";
 
   private final Random random;
-  private HornLearner learner;
+  private Counted learner;
   private Model model;
   private String run;
-  private int calls;
   private final int[] learntOfSize = new int[4];
   private final int[] learntWithClauses = new int[3];
 
@@ -38,15 +38,14 @@ public final class ModelTest {
   }
 
   private void start(String name) {
-    learner = new HornLearner();
+    learner = new Counted();
     model = new Model();
     run = name + ", ";
-    calls = 0;
   }
 
   private void mixedRun() {
     boolean dense = random.nextBoolean();
-    while (calls < CALLS - 40) {
+    while (learner.callsLeft() >= CALLS_OF_A_STEP) {
       int kind = random.nextInt(dense ? 14 : 20);
       if (kind < 5) {
         enterLine(factOrMark());
@@ -66,7 +65,7 @@ public final class ModelTest {
   private void learningRun() {
     int facts = 3 + random.nextInt(12);
     for (int i = 0; i < facts; i++) {
-      enterLine("ab".charAt(random.nextInt(2)) + pair(random.nextInt(16)));
+      enterLine("ab".charAt(random.nextInt(2)) + Check.pair(random.nextInt(16)));
     }
     List<List<List<Integer>>> all = Model.learnable();
     List<List<Integer>> hidden = all.get(random.nextInt(all.size()));
@@ -82,7 +81,7 @@ public final class ModelTest {
       int pair = random.nextInt(16);
       boolean given = model.given(pair / 4, pair % 4) != 0;
       boolean untrue = random.nextInt(40) == 0;
-      enterLine((given != untrue ? "+t" : "-t") + pair(pair));
+      enterLine((given != untrue ? "+t" : "-t") + Check.pair(pair));
     }
     learn();
     compareAll();
@@ -104,10 +103,10 @@ public final class ModelTest {
     for (int pair = 0; pair < 16; pair++) {
       int x = pair / 4;
       int y = pair % 4;
-      due("given" + pair(pair), model.given(x, y), learner.given(x, y));
-      due("mark" + pair(pair), model.mark(x, y), learner.mark(x, y));
-      due("holds 0 " + pair(pair), model.holds(0, x, y), learner.holds(0, x, y));
-      due("holds 1 " + pair(pair), model.holds(1, x, y), learner.holds(1, x, y));
+      due("given" + Check.pair(pair), model.given(x, y), learner.given(x, y));
+      due("mark" + Check.pair(pair), model.mark(x, y), learner.mark(x, y));
+      due("holds 0 " + Check.pair(pair), model.holds(0, x, y), learner.holds(0, x, y));
+      due("holds 1 " + Check.pair(pair), model.holds(1, x, y), learner.holds(1, x, y));
     }
     for (int i = 0; i < 4; i++) {
       due("subsumes", model.subsumes(i / 2, i % 2), learner.subsumes(i / 2, i % 2));
@@ -152,13 +151,9 @@ public final class ModelTest {
     due("enter of " + line, model.enter(), learner.enter());
   }
 
-  private String pair(int pair) {
-    return "(" + pair / 4 + "," + pair % 4 + ")";
-  }
-
   private String factOrMark() {
     String[] starts = {"a", "b", "a", "b", "~a", "~b", "+t", "-t", "~t"};
-    return starts[random.nextInt(starts.length)] + pair(random.nextInt(16));
+    return starts[random.nextInt(starts.length)] + Check.pair(random.nextInt(16));
   }
 
   private String clause() {
@@ -181,7 +176,6 @@ public final class ModelTest {
   }
 
   private void due(String call, long want, long got) {
-    calls++;
     Check.due(run + call, want, got);
   }
 
@@ -190,7 +184,6 @@ public final class ModelTest {
   }
 
   private void due(String call, String want, String got) {
-    calls += 1 + 2 * want.length();
     Check.due(run + call, want, got);
   }
 }
