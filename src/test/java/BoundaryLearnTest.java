@@ -16,6 +16,7 @@ public final class BoundaryLearnTest {
     choiceIsAnyConstants();
     choiceIsThereForALoneVariable();
     everyLiteralHolds();
+    literalHoldsByItsOwnRelation();
     tHoldsFromTheNextRoundOn();
     marksDoNotHold();
     givenFromRoundOne();
@@ -158,6 +159,46 @@ public final class BoundaryLearnTest {
       Check.enters(x, 1, facts[missing]);
       Check.due("given with all three", "0 0 1 0/0 0 0 0/0 0 0 0/0 0 0 0/", Check.given(x));
     }
+  }
+
+  /** Terms: "its pair is a fact there, or, for t, was given": each of the 27 literals. */
+  private static void literalHoldsByItsOwnRelation() {
+    for (int code = 0; code < 27; code++) {
+      String literal = Model.written(code);
+      boolean ofT = code >= 18;
+      String full = code / 9 == 1 ? "a" : "b";
+      String lone = code / 9 == 1 ? "b" : "a";
+      Counted x = new Counted();
+      Check.entersAllPairs(x, 1, full);
+      Check.enters(x, 10, "t(X,Y):-" + literal + "," + full + "(X,Y)");
+      Check.due("given, " + literal + " not there", ALL_NONE, Check.given(x));
+      Check.enters(x, 1, lone + "(1,2)", lone + "(3,3)");
+      if (ofT) {
+        Check.due("given, " + literal + " not given", ALL_NONE, Check.given(x));
+        Check.enters(x, 11, "t(X,Y):-a(X,Y)");
+      }
+      // What is given later comes from pairs of round 2.
+      String firstTwoRounds = Check.given(x).replaceAll("[3-9]", "0");
+      Check.due("given, " + literal + " there", roundsWith(literal, ofT), firstTwoRounds);
+    }
+  }
+
+  /** The literal holds for the pairs (1,2) and (3,3), which, if it is one of t, round 1 gives. */
+  private static String roundsWith(String literal, boolean ofT) {
+    String all = "";
+    for (int pair = 0; pair < 16; pair++) {
+      boolean lone = pair == 6 || pair == 15;
+      boolean holds = false;
+      for (int z = 0; z < 4; z++) {
+        String there = literal.substring(1).replace("X", "" + pair / 4).replace("Y", "" + pair % 4)
+            .replace("Z", "" + z);
+        holds |= there.equals("(1,2)") || there.equals("(3,3)");
+      }
+      int roundOfHolding = ofT ? 2 : 1;
+      int round = ofT && lone ? 1 : holds ? roundOfHolding : 0;
+      all += round + (pair % 4 == 3 ? "/" : " ");
+    }
+    return all;
   }
 
   /** Terms: "or, for t, was given in a round before": not in the same round, in either order. */
@@ -313,7 +354,8 @@ public final class BoundaryLearnTest {
   /** Promise 16 and Terms: "gives every pair marked +": each of them. */
   private static void fitsNeedsEveryPlus() {
     for (int pair = 0; pair < 16; pair++) {
-      Counted x = Check.with("t(X,Y):-a(X,Y)", "a" + Check.pair(15 - pair), "+t" + Check.pair(pair));
+      String other = "a" + Check.pair(15 - pair);
+      Counted x = Check.with("t(X,Y):-a(X,Y)", other, "+t" + Check.pair(pair));
       Check.due("fits() without " + Check.pair(pair), false, x.fits());
       Check.enters(x, 1, "a" + Check.pair(pair));
       Check.due("fits() with " + Check.pair(pair), true, x.fits());
@@ -325,7 +367,8 @@ public final class BoundaryLearnTest {
   /** Promise 16 and Terms: "and none marked -": not one of them, in whatever round. */
   private static void fitsAllowsNoMinus() {
     for (int pair = 0; pair < 16; pair++) {
-      Counted x = Check.with("t(X,Y):-a(X,Y)", "a" + Check.pair(15 - pair), "-t" + Check.pair(pair));
+      String other = "a" + Check.pair(15 - pair);
+      Counted x = Check.with("t(X,Y):-a(X,Y)", other, "-t" + Check.pair(pair));
       Check.due("fits() without " + Check.pair(pair), true, x.fits());
       Check.enters(x, 1, "a" + Check.pair(pair));
       Check.due("fits() with " + Check.pair(pair), false, x.fits());
@@ -505,7 +548,7 @@ public final class BoundaryLearnTest {
     }
   }
 
-  /** Promise 17: "0, changing nothing, when none fits.": all marked alike, with facts or without. */
+  /** Promise 17: "0, changing nothing, when none fits.": all pairs marked, no facts or all. */
   private static void learnWithAllMarked() {
     Counted none = new Counted();
     Check.entersAllPairs(none, 1, "+t");

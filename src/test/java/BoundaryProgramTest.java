@@ -40,6 +40,7 @@ public final class BoundaryProgramTest {
     letterAfterDrop();
     textCanBeTyped();
     subsumesWithEachVariableForZ();
+    subsumesLiteralByLiteral();
     subsumesWithOneVariableAtATime();
     subsumesWithXAndYStaying();
     subsumesEveryLiteral();
@@ -334,7 +335,8 @@ public final class BoundaryProgramTest {
     }
     int end = text.length();
     int[] outside = {-1, -2, -7, -8, -28, -29, -57, end, end + 1, end + 7, end + 14, 57, 58, 1000,
-        1 << 30, Integer.MIN_VALUE, Integer.MIN_VALUE + 28, Integer.MAX_VALUE - 28, Integer.MAX_VALUE};
+        1 << 30, Integer.MIN_VALUE, Integer.MIN_VALUE + 28, Integer.MAX_VALUE - 28,
+        Integer.MAX_VALUE};
     for (int k : outside) {
       Check.due("letter(" + k + ") of " + text, -1, x.letter(k));
     }
@@ -373,6 +375,25 @@ public final class BoundaryProgramTest {
     // Without Z there is nothing to put in its place, and every literal has to be there.
     subsumption("a(X,Y)", "a(X,Y),a(Z,Z)", true);
     subsumption("a(X,Y)", "a(X,Z),a(Z,Y)", false);
+  }
+
+  /** Promise 13: "some variable for Z": no literal becomes any but these three. */
+  private static void subsumesLiteralByLiteral() {
+    for (int code = 0; code < 27; code++) {
+      for (int other = 0; other < 27; other++) {
+        // The literal that brings in X and Y is another one than these two.
+        int both = code != 1 && other != 1 ? 1 : code != 3 && other != 3 ? 3 : 10;
+        String literal = Model.written(code);
+        String wanted = Model.written(other);
+        boolean due = wanted.equals(literal.replace('Z', 'X'))
+            || wanted.equals(literal.replace('Z', 'Y'))
+            || Model.written(both).equals(literal.replace('Z', 'X'))
+            || Model.written(both).equals(literal.replace('Z', 'Y'));
+        if (code != other) {
+          subsumption(literal + "," + Model.written(both), wanted + "," + Model.written(both), due);
+        }
+      }
+    }
   }
 
   /** Promise 13: "the substitution of some variable": one and the same for every literal. */

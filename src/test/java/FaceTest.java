@@ -20,6 +20,7 @@ public final class FaceTest {
     Check.end();
   }
 
+  /** The public face: every member of it, and no other. */
   private static void members() {
     Set<String> shown = new TreeSet<>();
     Set<String> names = new TreeSet<>();
@@ -46,6 +47,7 @@ public final class FaceTest {
     Check.due("public constructors", 1, HornLearner.class.getConstructors().length);
   }
 
+  /** The public face: no class inside shows. */
   private static void nestedClasses() {
     for (Class<?> nested : HornLearner.class.getDeclaredClasses()) {
       int is = nested.getModifiers();

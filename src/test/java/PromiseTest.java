@@ -1,4 +1,4 @@
-/** Each promise of the document: ordinary inputs, the edges that it names, and wrong inputs. */
+/** Each promise of the document: ordinary inputs, edges and wrong inputs. */
 public final class PromiseTest {
   private static final int[] NO_CONSTANTS = {-1, 4, 5, Integer.MIN_VALUE, Integer.MAX_VALUE, 1 << 30};
   private static final int[] NO_NUMBERS = {-1, 2, 3, Integer.MIN_VALUE, Integer.MAX_VALUE, 1 << 31};
