@@ -25,6 +25,7 @@ public final class BoundaryLearnTest {
     givenFollowsEveryChange();
     roundsOfNothing();
     roundsDoNotCountTheLast();
+    roundsOfEveryNumber();
     roundsAtTheirMost();
     fitsWithNothingMarked();
     fitsWithEveryPairMarked();
@@ -302,7 +303,41 @@ public final class BoundaryLearnTest {
     Check.due("rounds() without t", 1, x.rounds());
   }
 
-  /** Promise 15: "How many rounds the program has.": as many as were found for sixteen pairs. */
+  /** Promise 15: "How many rounds the program has.": one, two, three and so on, up to fifteen. */
+  private static void roundsOfEveryNumber() {
+    // The pair that round 1 gives, the facts of b, and the rounds of all pairs.
+    String[][] programs = {
+      {"23", "21", "0 0 0 0/0 0 0 0/0 0 0 1/0 0 0 0/"},
+      {"23", "13", "0 0 0 0/0 0 2 0/0 0 0 1/0 0 0 0/"},
+      {"11", "01", "3 2 0 0/0 1 0 0/0 0 0 0/0 0 0 0/"},
+      {"02", "10 22", "0 0 1 0/0 0 3 0/2 4 0 0/0 0 0 0/"},
+      {"00", "23 30", "1 0 0 0/0 0 0 0/0 0 5 4/2 0 0 3/"},
+      {"01", "10 12 21", "0 1 0 0/0 4 3 0/2 5 6 0/0 0 0 0/"},
+      {"22", "02 10 31", "3 0 2 0/4 5 0 0/0 0 1 0/0 6 0 7/"},
+      {"00", "02 23 30 32", "1 0 6 7/0 0 0 0/8 0 5 4/2 0 6 3/"},
+      {"33", "00 02 23 30", "5 0 4 7/0 0 0 0/8 0 3 2/6 0 9 1/"},
+      {"02", "02 10 12 21 30", "2 7 1 10/2 3 6 4/8 4 5 4/3 3 9 4/"},
+      {"31", "01 13 21 22 32", "11 10 5 2/3 9 3 8/6 4 5 2/6 1 6 7/"},
+      {"31", "00 03 10 21 32", "6 6 3 5/7 8 8 5/7 9 10 2/4 1 11 12/"},
+      {"03", "01 11 12 23 30", "9 8 6 1/7 7 6 4/2 5 13 12/10 8 3 11/"},
+      {"31", "03 12 20 31 32", "4 9 12 3/13 8 7 8/5 14 6 11/10 1 7 2/"},
+      {"32", "02 03 10 21 32", "3 11 8 2/4 5 13 10/12 6 7 15/9 14 1 2/"},
+    };
+    for (int i = 0; i < programs.length; i++) {
+      Counted x = Check.with("t(X,Y):-a(X,Y)", "t(X,Y):-b(X,Z),t(Y,Z)");
+      Check.enters(x, 1, "a(" + programs[i][0].charAt(0) + "," + programs[i][0].charAt(1) + ")");
+      for (String fact : programs[i][1].split(" ")) {
+        Check.enters(x, 1, "b(" + fact.charAt(0) + "," + fact.charAt(1) + ")");
+      }
+      Check.due("rounds() with b " + programs[i][1], i + 1, x.rounds());
+      Check.due("given with b " + programs[i][1], programs[i][2], Check.given(x));
+    }
+  }
+
+  /**
+   * Promise 15: "How many rounds the program has.": fifteen, the most that there are. A sixteenth
+   * needs one pair in every round, and none of all clauses with t and all facts comes to that.
+   */
   private static void roundsAtTheirMost() {
     Counted x = Check.with("a(0,0)", "b(0,3)", "b(1,2)", "b(2,0)", "b(2,3)", "b(3,1)",
         "t(X,Y):-a(X,Y)", "t(X,Y):-b(X,Z),t(Y,Z)");
